@@ -18,6 +18,7 @@ public final class DiagramCode {
 
     private static final int REFUSED = -1;
     private static final int NO_EDGE = -1;
+    private static final int NO_SPOT = -1;
     private static final int NOTHING_WRONG = -1;
     private static final int NO_ANSWER = -1000;
 
@@ -47,11 +48,7 @@ public final class DiagramCode {
         if (!isLabel(l0) || !isLabel(l1) || !isLabel(l2) || !isLabel(l3)) {
             return REFUSED;
         }
-        if (put.row.crossings >= MOST_CROSSINGS) {
-            return REFUSED;
-        }
-        put.row.append(sign, l0, l1, l2, l3);
-        return put.row.crossings;
+        return put.row.append(sign, l0, l1, l2, l3) ? put.row.crossings() : REFUSED;
     }
 
     public int check(int circles) {
@@ -59,14 +56,14 @@ public final class DiagramCode {
             return REFUSED;
         }
         int fault = put.survey();
-        wrong = put.wrong;
+        wrong = put.wrong();
         if (fault == A_DIAGRAM) {
             Chart old = held;
             held = put;
             put = old;
             this.circles = circles;
         }
-        put.row.crossings = 0;
+        put.row.clear();
         return fault;
     }
 
@@ -77,27 +74,27 @@ public final class DiagramCode {
     public int many(int what) {
         switch (what) {
             case 0:
-                return held.row.crossings;
+                return held.row.crossings();
             case 1:
-                return held.edges.count;
+                return held.edges.count();
             case 2:
-                return held.components.count + circles;
+                return held.components.count() + circles;
             case 3:
-                return held.pieces.count + circles;
+                return held.pieces.count() + circles;
             case 4:
                 return circles;
             case 5:
                 return held.row.sumOfSigns();
             case 6:
-                return held.faces.count;
+                return held.faces.count();
             case 7:
-                return held.arcs.count + circles;
+                return held.arcs.count() + circles;
             case 8:
-                return held.seifert.count + circles;
+                return held.seifert.count() + circles;
             case 9:
                 return held.edges.alternate() ? 1 : 0;
             case 10:
-                return put.row.crossings;
+                return put.row.crossings();
             default:
                 return NO_ANSWER;
         }
@@ -112,11 +109,11 @@ public final class DiagramCode {
             case 1:
             case 2:
             case 3:
-                return held.row.labels[4 * k + what];
+                return held.row.label(4 * k + what);
             case 4:
-                return held.row.signs[k];
+                return held.row.sign(k);
             case 5:
-                return held.pieces.numberOf[k];
+                return held.pieces.numberOf(k);
             case 6:
                 return held.lowerComponent(k);
             case 7:
@@ -134,23 +131,23 @@ public final class DiagramCode {
         }
         switch (what) {
             case 0:
-                return edges.from[e] / 4;
+                return edges.from(e) / 4;
             case 1:
-                return edges.from[e] % 4;
+                return edges.from(e) % 4;
             case 2:
-                return edges.to[e] / 4;
+                return edges.to(e) / 4;
             case 3:
-                return edges.to[e] % 4;
+                return edges.to(e) % 4;
             case 4:
-                return edges.labels[held.components.next[e]];
+                return edges.label(held.components.next(e));
             case 5:
-                return held.components.roundOf[e];
+                return held.components.roundOf(e);
             case 6:
-                return held.faces.roundOf[2 * e];
+                return held.faces.roundOf(2 * e);
             case 7:
-                return held.faces.roundOf[2 * e + 1];
+                return held.faces.roundOf(2 * e + 1);
             case 8:
-                return edges.labels[held.arcs.least[e]];
+                return edges.label(held.arcs.least(e));
             default:
                 return NO_EDGE;
         }
@@ -164,14 +161,14 @@ public final class DiagramCode {
             int other = what - LINKING;
             return hasComponent(other) ? held.linking(k, other) : NO_ANSWER;
         }
-        if (k >= held.components.count) {
-            return tellCircle(k - held.components.count, what);
+        if (k >= held.components.count()) {
+            return tellCircle(k - held.components.count(), what);
         }
         switch (what) {
             case 0:
-                return held.edges.labels[held.components.first[k]];
+                return held.edges.label(held.components.first(k));
             case 1:
-                return held.components.size[k];
+                return held.components.size(k);
             case 2:
                 return held.sumOfOwnSigns(k);
             case 3:
@@ -182,25 +179,20 @@ public final class DiagramCode {
     }
 
     public int face(int k, int i) {
-        Rounds faces = held.faces;
-        if (k < 0 || k >= faces.count) {
-            return 0;
-        }
+        int size = held.faces.size(k);
         if (i == -1) {
-            return faces.size[k];
+            return size;
         }
-        if (i < 0 || i >= faces.size[k]) {
+        if (i < 0 || i >= size) {
             return 0;
         }
-        int dart = faces.member(k, i);
-        int label = held.edges.labels[dart / 2];
+        int dart = held.faces.member(k, i);
+        int label = held.edges.label(dart / 2);
         return dart % 2 == 0 ? label : -label;
     }
 
     public void mirror() {
-        for (int k = 0; k < held.row.crossings; k++) {
-            held.row.exchangeStrands(k);
-        }
+        held.row.exchangeAllStrands();
         held.survey();
     }
 
@@ -208,10 +200,8 @@ public final class DiagramCode {
         if (!hasComponent(k)) {
             return false;
         }
-        if (k < held.components.count) {
-            held.turnComponent(k);
-            held.survey();
-        }
+        held.turnComponent(k);
+        held.survey();
         return true;
     }
 
@@ -233,10 +223,7 @@ public final class DiagramCode {
         if (!held.row.has(k)) {
             return false;
         }
-        Row row = held.row;
-        circles += row.joinSpots(4 * k, row.upperOut(k));
-        circles += row.joinSpots(row.upperIn(k), 4 * k + 2);
-        row.dropCrossing(k);
+        circles += held.row.smoothAway(k);
         held.survey();
         return true;
     }
@@ -246,7 +233,7 @@ public final class DiagramCode {
     }
 
     private boolean hasComponent(int k) {
-        return k >= 0 && k < held.components.count + circles;
+        return k >= 0 && k < held.components.count() + circles;
     }
 
     private int tellCircle(int circle, int what) {
@@ -256,7 +243,7 @@ public final class DiagramCode {
             case 2:
                 return 0;
             case 3:
-                return held.pieces.count + circle;
+                return held.pieces.count() + circle;
             default:
                 return NO_ANSWER;
         }
@@ -264,17 +251,44 @@ public final class DiagramCode {
 
     /** Crossings in their order, with nothing said about whether they fit together. */
     private static final class Row {
-        final int[] signs = new int[MOST_CROSSINGS];
-        final int[] labels = new int[MOST_SPOTS];
-        int crossings = 0;
+        private final int[] signs = new int[MOST_CROSSINGS];
+        private final int[] labels = new int[MOST_SPOTS];
+        private int crossings = 0;
+
+        int crossings() {
+            return crossings;
+        }
+
+        int spots() {
+            return 4 * crossings;
+        }
 
         boolean has(int k) {
             return k >= 0 && k < crossings;
         }
 
-        void append(int sign, int l0, int l1, int l2, int l3) {
+        int sign(int k) {
+            return has(k) ? signs[k] : 0;
+        }
+
+        int label(int spot) {
+            return spot >= 0 && spot < spots() ? labels[spot] : 0;
+        }
+
+        void setLabel(int spot, int label) {
+            if (spot >= 0 && spot < spots()) {
+                labels[spot] = label;
+            }
+        }
+
+        void clear() {
+            crossings = 0;
+        }
+
+        /** Answers whether there was room. */
+        boolean append(int sign, int l0, int l1, int l2, int l3) {
             if (crossings >= MOST_CROSSINGS) {
-                return;
+                return false;
             }
             int spot = 4 * crossings;
             signs[crossings] = sign;
@@ -283,25 +297,26 @@ public final class DiagramCode {
             labels[spot + 2] = l2;
             labels[spot + 3] = l3;
             crossings++;
+            return true;
         }
 
         int upperIn(int k) {
-            return 4 * k + (signs[k] == 1 ? 3 : 1);
+            return 4 * k + (sign(k) == 1 ? 3 : 1);
         }
 
         int upperOut(int k) {
-            return 4 * k + (signs[k] == 1 ? 1 : 3);
+            return 4 * k + (sign(k) == 1 ? 1 : 3);
         }
 
         boolean goesOut(int spot) {
             int k = spot / 4;
-            return spot == 4 * k + 2 || spot == upperOut(k);
+            return spot == lowerOut(k) || spot == upperOut(k);
         }
 
         /** Where Seifert's circle goes out again that comes in at a spot. */
         int seifertOut(int spot) {
             int k = spot / 4;
-            return isUpper(spot) ? 4 * k + 2 : upperOut(k);
+            return isUpper(spot) ? lowerOut(k) : upperOut(k);
         }
 
         int sumOfSigns() {
@@ -314,7 +329,13 @@ public final class DiagramCode {
 
         void exchangeStrands(int k) {
             beginPlacesAt(k, upperIn(k) % 4);
-            signs[k] = -signs[k];
+            flipSign(k);
+        }
+
+        void exchangeAllStrands() {
+            for (int k = 0; k < crossings; k++) {
+                exchangeStrands(k);
+            }
         }
 
         void turnStrands(int k, boolean lower, boolean upper) {
@@ -322,11 +343,20 @@ public final class DiagramCode {
                 beginPlacesAt(k, 2);
             }
             if (lower != upper) {
+                flipSign(k);
+            }
+        }
+
+        private void flipSign(int k) {
+            if (has(k)) {
                 signs[k] = -signs[k];
             }
         }
 
         private void beginPlacesAt(int k, int place) {
+            if (!has(k)) {
+                return;
+            }
             int spot = 4 * k;
             for (int turn = 0; turn < place; turn++) {
                 int gone = labels[spot];
@@ -337,14 +367,25 @@ public final class DiagramCode {
             }
         }
 
-        /** Makes one edge of those at two spots; answers how many circles that closes. */
-        int joinSpots(int in, int out) {
-            int lesser = Math.min(labels[in], labels[out]);
-            int greater = Math.max(labels[in], labels[out]);
-            if (lesser == greater) {
+        /** Answers how many circles closed upon themselves. */
+        int smoothAway(int k) {
+            if (!has(k)) {
+                return 0;
+            }
+            int closed = 0;
+            closed += joinEdges(label(lowerIn(k)), label(upperOut(k)));
+            closed += joinEdges(label(upperIn(k)), label(lowerOut(k)));
+            dropCrossing(k);
+            return closed;
+        }
+
+        private int joinEdges(int in, int out) {
+            if (in == out) {
                 return 1;
             }
-            for (int spot = 0; spot < 4 * crossings; spot++) {
+            int lesser = Math.min(in, out);
+            int greater = Math.max(in, out);
+            for (int spot = 0; spot < spots(); spot++) {
                 if (labels[spot] == greater) {
                     labels[spot] = lesser;
                 }
@@ -352,16 +393,26 @@ public final class DiagramCode {
             return 0;
         }
 
-        void dropCrossing(int k) {
+        private void dropCrossing(int k) {
             for (int c = k + 1; c < crossings; c++) {
                 signs[c - 1] = signs[c];
-                System.arraycopy(labels, 4 * c, labels, 4 * (c - 1), 4);
+            }
+            for (int spot = 4 * k + 4; spot < spots(); spot++) {
+                labels[spot - 4] = labels[spot];
             }
             crossings--;
         }
 
+        static int lowerIn(int k) {
+            return 4 * k;
+        }
+
+        static int lowerOut(int k) {
+            return 4 * k + 2;
+        }
+
         static boolean isUpper(int spot) {
-            return spot % 2 == 1;
+            return spot % 2 != 0;
         }
 
         static int across(int spot) {
@@ -377,18 +428,48 @@ public final class DiagramCode {
     /** The labels of a row in their order, and where the edges that bear them begin and end. */
     private static final class Edges {
         // As many as there are spots: before a row is found to be a diagram, each may differ.
-        final int[] labels = new int[MOST_SPOTS];
-        final int[] times = new int[MOST_SPOTS];
-        final int[] from = new int[MOST_SPOTS];
-        final int[] to = new int[MOST_SPOTS];
-        final int[] at = new int[MOST_SPOTS];
-        int count = 0;
+        private final int[] labels = new int[MOST_SPOTS];
+        private final int[] times = new int[MOST_SPOTS];
+        private final int[] from = new int[MOST_SPOTS];
+        private final int[] to = new int[MOST_SPOTS];
+        private final int[] edgeAt = new int[MOST_SPOTS];
+        private int count = 0;
+
+        int count() {
+            return count;
+        }
+
+        private boolean has(int e) {
+            return e >= 0 && e < count;
+        }
+
+        int label(int e) {
+            return has(e) ? labels[e] : 0;
+        }
+
+        int from(int e) {
+            return has(e) ? from[e] : NO_SPOT;
+        }
+
+        int to(int e) {
+            return has(e) ? to[e] : NO_SPOT;
+        }
+
+        int at(int spot) {
+            return spot >= 0 && spot < MOST_SPOTS ? edgeAt[spot] : NO_EDGE;
+        }
+
+        /** The dart that leaves by a spot. */
+        int dartFrom(int spot) {
+            int e = at(spot);
+            return from(e) == spot ? 2 * e : 2 * e + 1;
+        }
 
         /** Answers the least label that is not at two places, or NOTHING_WRONG. */
         int gatherLabels(Row row) {
             count = 0;
-            for (int spot = 0; spot < 4 * row.crossings; spot++) {
-                countLabel(row.labels[spot]);
+            for (int spot = 0; spot < row.spots(); spot++) {
+                countLabel(row.label(spot));
             }
             for (int e = 0; e < count; e++) {
                 if (times[e] != 2) {
@@ -399,8 +480,8 @@ public final class DiagramCode {
         }
 
         private void countLabel(int label) {
-            int rank = rankOrBehind(label);
-            if (rank < count && labels[rank] == label) {
+            int rank = countLess(label);
+            if (has(rank) && labels[rank] == label) {
                 times[rank]++;
                 return;
             }
@@ -418,46 +499,42 @@ public final class DiagramCode {
 
         /** Answers the least label without a beginning or without an end, or NOTHING_WRONG. */
         int findEnds(Row row) {
-            Arrays.fill(from, -1);
-            Arrays.fill(to, -1);
-            for (int spot = 0; spot < 4 * row.crossings; spot++) {
-                int e = rank(row.labels[spot]);
-                if (e == NO_EDGE) {
-                    continue;
-                }
-                at[spot] = e;
-                if (row.goesOut(spot)) {
-                    from[e] = spot;
-                } else {
-                    to[e] = spot;
-                }
+            Arrays.fill(from, NO_SPOT);
+            Arrays.fill(to, NO_SPOT);
+            for (int spot = 0; spot < row.spots(); spot++) {
+                noteEnd(spot, rank(row.label(spot)), row.goesOut(spot));
             }
             for (int e = 0; e < count; e++) {
-                if (from[e] < 0 || to[e] < 0) {
+                if (from[e] == NO_SPOT || to[e] == NO_SPOT) {
                     return labels[e];
                 }
             }
             return NOTHING_WRONG;
         }
 
-        int rank(int label) {
-            int e = rankOrBehind(label);
-            return e < count && labels[e] == label ? e : NO_EDGE;
+        private void noteEnd(int spot, int e, boolean out) {
+            if (spot < 0 || spot >= MOST_SPOTS || !has(e)) {
+                return;
+            }
+            edgeAt[spot] = e;
+            if (out) {
+                from[e] = spot;
+            } else {
+                to[e] = spot;
+            }
         }
 
-        /** How many labels are less than this one. */
-        private int rankOrBehind(int label) {
+        int rank(int label) {
+            int e = countLess(label);
+            return has(e) && labels[e] == label ? e : NO_EDGE;
+        }
+
+        private int countLess(int label) {
             int e = 0;
             while (e < count && labels[e] < label) {
                 e++;
             }
             return e;
-        }
-
-        /** The dart that leaves by a spot. */
-        int dartFrom(int spot) {
-            int e = at[spot];
-            return from[e] == spot ? 2 * e : 2 * e + 1;
         }
 
         boolean alternate() {
@@ -472,26 +549,78 @@ public final class DiagramCode {
 
     /** Rounds of members that each have a next one; numbered by their least members. */
     private static final class Rounds {
-        final int[] next = new int[MOST_DARTS];
-        final int[] roundOf = new int[MOST_DARTS];
-        final int[] first = new int[MOST_DARTS];
-        final int[] size = new int[MOST_DARTS];
-        int count = 0;
+        private final int[] next = new int[MOST_DARTS];
+        private final int[] roundOf = new int[MOST_DARTS];
+        private final int[] first = new int[MOST_DARTS];
+        private final int[] size = new int[MOST_DARTS];
+        private int members = 0;
+        private int count = 0;
 
-        void trace(int members) {
+        int count() {
+            return count;
+        }
+
+        private boolean hasMember(int m) {
+            return m >= 0 && m < members;
+        }
+
+        private boolean hasRound(int round) {
+            return round >= 0 && round < count;
+        }
+
+        int next(int m) {
+            return hasMember(m) ? next[m] : -1;
+        }
+
+        int roundOf(int m) {
+            return hasMember(m) ? roundOf[m] : -1;
+        }
+
+        /** The least member of a round. */
+        int first(int round) {
+            return hasRound(round) ? first[round] : -1;
+        }
+
+        int size(int round) {
+            return hasRound(round) ? size[round] : 0;
+        }
+
+        /** Member i of a round, counted from its least one on. */
+        int member(int round, int i) {
+            int m = first(round);
+            for (int step = 0; step < i && step < MOST_DARTS; step++) {
+                m = next(m);
+            }
+            return m;
+        }
+
+        void begin(int members) {
+            this.members = Math.min(members, MOST_DARTS);
             count = 0;
+        }
+
+        void link(int m, int nextOne) {
+            if (hasMember(m)) {
+                next[m] = nextOne;
+            }
+        }
+
+        void trace() {
             Arrays.fill(roundOf, -1);
             for (int m = 0; m < members; m++) {
                 if (roundOf[m] < 0) {
-                    walk(m, members);
+                    walk(m);
                 }
             }
         }
 
-        private void walk(int begin, int members) {
+        private void walk(int begin) {
+            if (count >= MOST_DARTS) {
+                return;
+            }
             int steps = 0;
             int m = begin;
-            while (steps < members && roundOf[m] < 0) {
+            while (steps < members && hasMember(m) && roundOf[m] < 0) {
                 roundOf[m] = count;
                 m = next[m];
                 steps++;
@@ -500,34 +629,43 @@ public final class DiagramCode {
             size[count] = steps;
             count++;
         }
-
-        int member(int round, int i) {
-            int m = first[round];
-            for (int step = 0; step < i && step < MOST_DARTS; step++) {
-                m = next[m];
-            }
-            return m;
-        }
     }
 
     /** Members that were joined, two by two, to groups; numbered by their least members. */
     private static final class Groups {
-        final int[] least = new int[MOST_EDGES];
-        final int[] numberOf = new int[MOST_EDGES];
-        int members = 0;
-        int count = 0;
+        private final int[] least = new int[MOST_EDGES];
+        private final int[] numberOf = new int[MOST_EDGES];
+        private int members = 0;
+        private int count = 0;
+
+        int count() {
+            return count;
+        }
+
+        private boolean hasMember(int m) {
+            return m >= 0 && m < members;
+        }
+
+        /** The least member of a member's group. */
+        int least(int m) {
+            return hasMember(m) ? least[m] : -1;
+        }
+
+        int numberOf(int m) {
+            return hasMember(m) ? numberOf[m] : -1;
+        }
 
         void begin(int members) {
-            this.members = members;
-            for (int m = 0; m < members; m++) {
+            this.members = Math.min(members, MOST_EDGES);
+            for (int m = 0; m < this.members; m++) {
                 least[m] = m;
             }
         }
 
         void join(int a, int b) {
-            int lesser = Math.min(least[a], least[b]);
-            int greater = Math.max(least[a], least[b]);
-            if (lesser == greater) {
+            int lesser = Math.min(least(a), least(b));
+            int greater = Math.max(least(a), least(b));
+            if (lesser < 0 || lesser == greater) {
                 return;
             }
             for (int m = 0; m < members; m++) {
@@ -544,7 +682,7 @@ public final class DiagramCode {
                     numberOf[m] = count;
                     count++;
                 } else {
-                    numberOf[m] = numberOf[least[m]];
+                    numberOf[m] = numberOf(least[m]);
                 }
             }
         }
@@ -559,11 +697,15 @@ public final class DiagramCode {
         final Rounds components = new Rounds();
         final Rounds seifert = new Rounds();
         final Rounds faces = new Rounds();
-        // By turns: faces less crossings of each piece, new labels of edges.
-        private final int[] tally = new int[MOST_EDGES];
-        int wrong = NOTHING_WRONG;
+        private final int[] newLabels = new int[MOST_EDGES];
+        private int wrong = NOTHING_WRONG;
 
-        /** Answers the document's number of the first thing that is wrong; wrong names it. */
+        /** What the latest survey found wrong. */
+        int wrong() {
+            return wrong;
+        }
+
+        /** Answers the document's number of the first thing that is wrong, or A_DIAGRAM. */
         int survey() {
             wrong = edges.gatherLabels(row);
             if (wrong != NOTHING_WRONG) {
@@ -585,67 +727,82 @@ public final class DiagramCode {
         }
 
         private void groupPieces() {
-            pieces.begin(row.crossings);
-            for (int e = 0; e < edges.count; e++) {
-                pieces.join(edges.from[e] / 4, edges.to[e] / 4);
+            pieces.begin(row.crossings());
+            for (int e = 0; e < edges.count(); e++) {
+                pieces.join(edges.from(e) / 4, edges.to(e) / 4);
             }
             pieces.numberGroups();
         }
 
         private void traceFaces() {
-            for (int e = 0; e < edges.count; e++) {
-                faces.next[2 * e] = edges.dartFrom(Row.beside(edges.to[e]));
-                faces.next[2 * e + 1] = edges.dartFrom(Row.beside(edges.from[e]));
+            faces.begin(2 * edges.count());
+            for (int e = 0; e < edges.count(); e++) {
+                faces.link(2 * e, edges.dartFrom(Row.beside(edges.to(e))));
+                faces.link(2 * e + 1, edges.dartFrom(Row.beside(edges.from(e))));
             }
-            faces.trace(2 * edges.count);
+            faces.trace();
         }
 
         private int leastCrossingOnNoSphere() {
-            Arrays.fill(tally, 0);
-            for (int k = 0; k < row.crossings; k++) {
-                tally[pieces.numberOf[k]]--;
-            }
-            for (int f = 0; f < faces.count; f++) {
-                int e = faces.first[f] / 2;
-                tally[pieces.numberOf[edges.to[e] / 4]]++;
-            }
-            for (int k = 0; k < row.crossings; k++) {
-                if (tally[pieces.numberOf[k]] != 2) {
+            for (int k = 0; k < row.crossings(); k++) {
+                // One crossing speaks for its whole piece.
+                if (pieces.least(k) == k && facesLessCrossings(pieces.numberOf(k)) != 2) {
                     return k;
                 }
             }
             return NOTHING_WRONG;
         }
 
-        private void traceStrands() {
-            for (int e = 0; e < edges.count; e++) {
-                components.next[e] = edges.at[Row.across(edges.to[e])];
-                seifert.next[e] = edges.at[row.seifertOut(edges.to[e])];
+        private int facesLessCrossings(int piece) {
+            int balance = 0;
+            for (int f = 0; f < faces.count(); f++) {
+                if (pieceOfEdge(faces.first(f) / 2) == piece) {
+                    balance++;
+                }
             }
-            components.trace(edges.count);
-            seifert.trace(edges.count);
+            for (int k = 0; k < row.crossings(); k++) {
+                if (pieces.numberOf(k) == piece) {
+                    balance--;
+                }
+            }
+            return balance;
+        }
+
+        private void traceStrands() {
+            components.begin(edges.count());
+            seifert.begin(edges.count());
+            for (int e = 0; e < edges.count(); e++) {
+                components.link(e, edges.at(Row.across(edges.to(e))));
+                seifert.link(e, edges.at(row.seifertOut(edges.to(e))));
+            }
+            components.trace();
+            seifert.trace();
         }
 
         private void groupArcs() {
-            arcs.begin(edges.count);
-            for (int e = 0; e < edges.count; e++) {
-                if (Row.isUpper(edges.to[e])) {
-                    arcs.join(e, components.next[e]);
+            arcs.begin(edges.count());
+            for (int e = 0; e < edges.count(); e++) {
+                if (Row.isUpper(edges.to(e))) {
+                    arcs.join(e, components.next(e));
                 }
             }
             arcs.numberGroups();
         }
 
-        int lowerComponent(int k) {
-            return components.roundOf[edges.at[4 * k]];
-        }
-
-        int upperComponent(int k) {
-            return components.roundOf[edges.at[4 * k + 1]];
+        private int pieceOfEdge(int e) {
+            return pieces.numberOf(edges.to(e) / 4);
         }
 
         int pieceOfComponent(int component) {
-            return pieces.numberOf[edges.to[components.first[component]] / 4];
+            return pieceOfEdge(components.first(component));
+        }
+
+        int lowerComponent(int k) {
+            return components.roundOf(edges.at(Row.lowerIn(k)));
+        }
+
+        int upperComponent(int k) {
+            return components.roundOf(edges.at(row.upperIn(k)));
         }
 
         int sumOfOwnSigns(int component) {
@@ -662,34 +819,43 @@ public final class DiagramCode {
 
         private int sumOfSignsUnder(int lower, int upper) {
             int sum = 0;
-            for (int k = 0; k < row.crossings; k++) {
+            for (int k = 0; k < row.crossings(); k++) {
                 if (lowerComponent(k) == lower && upperComponent(k) == upper) {
-                    sum += row.signs[k];
+                    sum += row.sign(k);
                 }
             }
             return sum;
         }
 
-        /** Leaves the survey stale. */
+        /** The survey must be made anew behind it. */
         void turnComponent(int component) {
-            for (int k = 0; k < row.crossings; k++) {
+            for (int k = 0; k < row.crossings(); k++) {
                 row.turnStrands(k, lowerComponent(k) == component, upperComponent(k) == component);
             }
         }
 
-        /** Leaves the survey stale. */
+        /** The survey must be made anew behind it. */
         void labelAnew() {
-            int label = 0;
-            for (int c = 0; c < components.count; c++) {
-                int e = components.first[c];
-                for (int i = 0; i < components.size[c]; i++) {
-                    label++;
-                    tally[e] = label;
-                    e = components.next[e];
+            chooseNewLabels();
+            for (int spot = 0; spot < row.spots(); spot++) {
+                int e = edges.at(spot);
+                if (e >= 0 && e < MOST_EDGES) {
+                    row.setLabel(spot, newLabels[e]);
                 }
             }
-            for (int spot = 0; spot < 4 * row.crossings; spot++) {
-                row.labels[spot] = tally[edges.at[spot]];
+        }
+
+        private void chooseNewLabels() {
+            int label = 1;
+            for (int c = 0; c < components.count(); c++) {
+                int e = components.first(c);
+                for (int i = 0; i < components.size(c); i++) {
+                    if (e >= 0 && e < MOST_EDGES) {
+                        newLabels[e] = label;
+                    }
+                    label++;
+                    e = components.next(e);
+                }
             }
         }
     }
