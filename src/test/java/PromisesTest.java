@@ -23,6 +23,7 @@ public final class PromisesTest {
         change();
         smooth();
         smoothMost();
+        fullDiagram();
         oddNumbers();
         System.out.println(wrong == 0 ? "PromisesTest: all as due" : "PromisesTest: " + wrong + " wrong");
         if (wrong != 0) {
@@ -437,6 +438,56 @@ public final class PromisesTest {
         due("14: reverse(60)", x.reverse(60), false);
         due("14: check again", x.check(1), 0);
         due("14: circles again", x.many(4), 1);
+    }
+
+    /** As many crossings as there may be; then fewer, so that nothing of the greater diagram may show. */
+    private static void fullDiagram() {
+        DiagramCode x = new DiagramCode();
+        for (int k = 0; k < 20; k++) {
+            x.crossing(1, 4 * k + 1, 4 * k + 2, 4 * k + 3, 4 * k + 4);
+        }
+        due("3: eighty labels", x.check(0), 1);
+        due("4: eighty labels", x.which(), 1);
+        // A closed braid of two strands: crossing k has the edges 2 k + 1, 2 k + 2 below it.
+        for (int k = 0; k < 20; k++) {
+            int above = (2 * k + 2) % 40;
+            x.crossing(1, 2 * k + 2, above + 2, above + 1, 2 * k + 1);
+        }
+        due("3: twenty crossings", x.check(0), 0);
+        int[] want = {20, 40, 2, 1, 0, 20, 22, 20, 2, 1, 0};
+        for (int what = 0; what < want.length; what++) {
+            due("5: twenty crossings, many(" + what + ")", x.many(what), want[what]);
+        }
+        due("8: linking", x.component(1, 10), 10);
+        due("9: a long face", x.face(0, -1), 20);
+        due("9: its last dart", x.face(0, 19), 39);
+        due("9: no dart behind it", x.face(0, 20), 0);
+        x.mirror();
+        due("10: linking", x.component(1, 10), -10);
+        due("11: reverse(1)", x.reverse(1), true);
+        due("11: linking", x.component(1, 10), 10);
+        due("7: component of 40", x.edge(40, 5), 0);
+        due("7: component of 39", x.edge(39, 5), 1);
+        x.number();
+        due("12: edge 20", x.edge(20, 4), 1);
+        due("12: edge 21 comes behind 40", x.edge(40, 4), 21);
+        due("13: change(19)", x.change(19), true);
+        due("13: signs", x.many(5), 18);
+        due("14: smooth(4)", x.smooth(4), true);
+        due("14: signs", x.many(5), 17);
+        for (int k = 0; k < 19; k++) {
+            due("14: sign of crossing " + k, x.look(k, 4), k == 18 ? -1 : 1);
+        }
+        due("14: smooth(18)", x.smooth(18), true);
+        due("14: signs again", x.many(5), 18);
+        due("14: no crossing 18", x.look(18, 4), -1000);
+        putAll(x, c(1, 1, 1, 2, 2));
+        due("3: one crossing", x.check(0), 0);
+        due("5: its sign", x.many(5), 1);
+        dueFace("9", x, 3);
+        due("6: no crossing 1", x.look(1, 0), -1000);
+        due("7: no edge 3", x.edge(3, 0), -1);
+        due("8: no component 1", x.component(1, 0), -1000);
     }
 
     private static void oddNumbers() {
