@@ -10,17 +10,31 @@ import java.util.TreeMap;
 import java.util.TreeSet;
 
 /**
- * Runs of calls on made-up diagrams, compared with a model that finds the answers another way:
- * its crossings lie still, and what is turned is which ends go out and which strand is lower.
+ * Every code of few crossings, and runs of calls on made-up diagrams, compared with a model that
+ * finds the answers another way: its crossings lie still, and what is turned is which ends go out
+ * and which strand is lower.
  */
 public final class ModelTest {
     private static final int RUNS = 2000;
     private static final int CALLS = 512;
+    private static final int FEW_CROSSINGS = 3;
+    /** Counted by a program in another language: 2 of one crossing, 24 of two, 656 of three. */
+    private static final int DIAGRAMS_OF_FEW = 682;
+    private static final int NO_SEED = 0;
 
     private static int wrong = 0;
     private static final int[] faults = new int[4];
 
     public static void main(String[] args) {
+        int few = 0;
+        for (int crossings = 1; crossings <= FEW_CROSSINGS; crossings++) {
+            few += new FewCrossings(crossings).all();
+        }
+        if (few != DIAGRAMS_OF_FEW) {
+            wrong++;
+            System.out.println(few + " codes of few crossings are diagrams, due are " + DIAGRAMS_OF_FEW);
+        }
+        Arrays.fill(faults, 0);
         for (int seed = 1; seed <= RUNS && wrong < 20; seed++) {
             new Run(seed).all();
         }
@@ -429,6 +443,94 @@ public final class ModelTest {
         }
     }
 
+    /** All ways to join the ways in of some crossings to their ways out, for all their signs. */
+    private static final class FewCrossings {
+        final int crossings;
+        final int[] outOf;
+        final boolean[] taken;
+        final Random random;
+        int signs;
+        int diagrams = 0;
+
+        FewCrossings(int crossings) {
+            this.crossings = crossings;
+            outOf = new int[2 * crossings];
+            taken = new boolean[2 * crossings];
+            random = new Random(crossings);
+        }
+
+        /** Answers how many are diagrams. */
+        int all() {
+            for (signs = 0; signs < 1 << crossings; signs++) {
+                join(0);
+            }
+            return diagrams;
+        }
+
+        private void join(int edge) {
+            if (edge == outOf.length) {
+                compare(code());
+                return;
+            }
+            for (int out = 0; out < outOf.length && wrong < 20; out++) {
+                if (!taken[out]) {
+                    taken[out] = true;
+                    outOf[edge] = out;
+                    join(edge + 1);
+                    taken[out] = false;
+                }
+            }
+        }
+
+        /** Edge e goes to lower place 0 of crossing e / 2 when e is even, to its upper way in when it is odd. */
+        private List<int[]> code() {
+            List<Integer> labels = new ArrayList<>();
+            for (int label = 1; label <= outOf.length; label++) {
+                labels.add(label);
+            }
+            Collections.shuffle(labels, random);
+            List<int[]> code = new ArrayList<>();
+            for (int k = 0; k < crossings; k++) {
+                code.add(new int[] {(signs >> k & 1) == 0 ? 1 : -1, 0, 0, 0, 0});
+            }
+            for (int e = 0; e < outOf.length; e++) {
+                int[] to = code.get(e / 2);
+                to[1 + (e % 2 == 0 ? 0 : to[0] == 1 ? 3 : 1)] = labels.get(e);
+                int[] from = code.get(outOf[e] / 2);
+                from[1 + (outOf[e] % 2 == 0 ? 2 : from[0] == 1 ? 1 : 3)] = labels.get(e);
+            }
+            return code;
+        }
+
+        /** Each change begins on an object of its own, so that all see the same diagram. */
+        private void compare(List<int[]> code) {
+            Run run = checked(code);
+            if (run.m.tangles.isEmpty()) {
+                return;
+            }
+            diagrams++;
+            run.askAll();
+            int components = run.m.rounds(false).size() + run.m.circles;
+            for (int kind = 0; kind < 5; kind++) {
+                int most = kind < 2 ? 1 : kind == 2 ? components : crossings;
+                for (int k = 0; k < most && wrong < 20; k++) {
+                    Run changed = checked(code);
+                    changed.changeBy(kind, k);
+                    changed.askAll();
+                }
+            }
+        }
+
+        private Run checked(List<int[]> code) {
+            Run run = new Run(NO_SEED);
+            for (int[] c : code) {
+                run.putOne(c);
+            }
+            run.checkOnce(1);
+            return run;
+        }
+    }
+
     /** One run: some checks, each with calls behind it. */
     private static final class Run {
         final int seed;
@@ -462,7 +564,8 @@ public final class ModelTest {
             calls.add(call);
             if (got != want) {
                 wrong++;
-                System.out.println("run " + seed + ": " + String.join(" ", calls) + " answered " + got + ", due is " + want);
+                String run = seed == NO_SEED ? "few crossings: " : "run " + seed + ": ";
+                System.out.println(run + String.join(" ", calls) + " answered " + got + ", due is " + want);
             }
         }
 
@@ -470,18 +573,45 @@ public final class ModelTest {
             due(call, got ? 1 : 0, want ? 1 : 0);
         }
 
-        private void putOne(int[] c) {
+        void putOne(int[] c) {
             String call = "crossing(" + c[0] + ", " + c[1] + ", " + c[2] + ", " + c[3] + ", " + c[4] + ")";
             due(call, x.crossing(c[0], c[1], c[2], c[3], c[4]), m.crossing(c[0], new int[] {c[1], c[2], c[3], c[4]}));
         }
 
-        private void checkOnce(int circles) {
+        void checkOnce(int circles) {
             int want = m.check(circles);
             if (want >= 0) {
                 faults[want]++;
             }
             due("check(" + circles + ")", x.check(circles), want);
             due("which()", x.which(), m.which);
+        }
+
+        void askAll() {
+            for (int what = 0; what <= 10; what++) {
+                ask("many", what, 0);
+            }
+            for (int k = 0; k < m.tangles.size(); k++) {
+                askEach("look", k, 0, 7);
+            }
+            for (int label : Model.ends(m.tangles).keySet()) {
+                askEach("edge", label, 0, 8);
+            }
+            int components = m.rounds(false).size() + m.circles;
+            for (int k = 0; k < components; k++) {
+                askEach("component", k, 0, 3);
+                askEach("component", k, 10, 10 + components);
+            }
+            List<List<Integer>> faces = m.faces();
+            for (int k = 0; k < faces.size(); k++) {
+                askEach("face", k, -1, faces.get(k).size());
+            }
+        }
+
+        private void askEach(String name, int k, int first, int last) {
+            for (int what = first; what <= last; what++) {
+                ask(name, k, what);
+            }
         }
 
         private int oddNumber() {
@@ -524,9 +654,12 @@ public final class ModelTest {
         }
 
         private void changeSomething() {
-            int k = indexNear(m.tangles.size());
-            int component = indexNear(m.rounds(false).size() + 1);
-            switch (random.nextInt(5)) {
+            int kind = random.nextInt(5);
+            changeBy(kind, indexNear(kind == 2 ? m.rounds(false).size() + 1 : m.tangles.size()));
+        }
+
+        void changeBy(int kind, int k) {
+            switch (kind) {
                 case 0 -> {
                     x.mirror();
                     for (int c = 0; c < m.tangles.size(); c++) {
@@ -539,7 +672,7 @@ public final class ModelTest {
                     m.number();
                     calls.add("number()");
                 }
-                case 2 -> due("reverse(" + component + ")", x.reverse(component), m.reverse(component));
+                case 2 -> due("reverse(" + k + ")", x.reverse(k), m.reverse(k));
                 case 3 -> due("change(" + k + ")", x.change(k), m.change(k));
                 default -> due("smooth(" + k + ")", x.smooth(k), m.smooth(k));
             }
