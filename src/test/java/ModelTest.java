@@ -10,9 +10,9 @@ import java.util.TreeMap;
 import java.util.TreeSet;
 
 /**
- * Every code of few crossings, and runs of calls on made-up diagrams, compared with a model that
- * finds the answers another way: its crossings lie still, and what is turned is which ends go out
- * and which strand is lower.
+ * Few crossings joined in every way, and runs of calls on made-up diagrams, compared with a model
+ * that finds the answers another way: its crossings lie still, and what is turned is which ends
+ * go out and which strand is lower.
  */
 public final class ModelTest {
     private static final int RUNS = 2000;
@@ -443,7 +443,7 @@ public final class ModelTest {
         }
     }
 
-    /** All ways to join the ways in of some crossings to their ways out, for all their signs. */
+    /** All ways to join the ways in of some crossings to their ways out, for all signs; one labelling each. */
     private static final class FewCrossings {
         final int crossings;
         final int[] outOf;
